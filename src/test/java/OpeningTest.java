@@ -13,6 +13,7 @@ public final class OpeningTest {
         tellTimes();
         noShips();
         bestOnes();
+        tenApart();
         likeOnes();
         earliestOnes();
         againstSearch();
@@ -109,6 +110,21 @@ public final class OpeningTest {
         CHECK.due("14: its end", late.opening(0, 2), 479);
         CHECK.due("13: their waits", late.waits(), 9 + 200 + 20 * 55);
         CHECK.due("15: at once one would begin behind 299", late.atOnce(), -1);
+    }
+
+    private static void tenApart() {
+        BoatBridge x = new BoatBridge(1);
+        for (int i = 9; i >= 0; i--) {
+            x.ship(20 * i);
+        }
+        CHECK.due("13: ten apart", x.waits(), 100);
+        CHECK.due("15: ten apart", x.atOnce(), 100);
+        for (int i = 0; i < 10; i++) {
+            CHECK.due("14: ten apart, minute of " + i, x.opening(i, 0), 20 * i);
+            CHECK.due("14: ten apart, ships of " + i, x.opening(i, 1), 1);
+            CHECK.due("14: ten apart, end of " + i, x.opening(i, 2), 20 * i + 8);
+        }
+        CHECK.due("14: ten apart, no eleventh", x.opening(10, 0), -1);
     }
 
     private static void likeOnes() {

@@ -226,6 +226,11 @@ public final class TollTest {
         duePass(x, 0, 0, 1021, 0);
         duePass(x, 0, 0, 1022, 4);
         duePass(x, 0, 0, 2022, 4);
+        tell(x, "toll 0 1; again 0 1;");
+        duePass(x, 0, 7, 3000, 1);
+        duePass(x, 0, 7, 3001, 0);
+        duePass(x, 0, 7, 3001, 1);
+        duePass(x, 0, 7, 3003, 1);
     }
 
     private static void wrongPasses() {
