@@ -17,20 +17,9 @@ public final class TollTest {
         CHECK.done();
     }
 
-    /** Feeds a text, blanks behind it cut off, and answers tolls(). */
     private static int tell(BoatBridge x, String text) {
-        StringBuilder all = new StringBuilder(text);
-        while (all.length() % 20 != 0) {
-            all.append(' ');
-        }
-        for (int i = 0; i < all.length(); i += 20) {
-            int[] words = new int[5];
-            for (int b = 0; b < 20; b++) {
-                words[b / 4] = words[b / 4] << 8 | all.charAt(i + b) & 255;
-            }
-            x.feed(words[0], words[1], words[2], words[3], words[4]);
-        }
-        CHECK.due("21: end of '" + text + "'", x.end(text.length()), text.length());
+        Texts.feed(x, text);
+        CHECK.due("25: bytes of '" + text + "'", x.about(6), text.length());
         return x.tolls();
     }
 
