@@ -362,6 +362,14 @@ public final class HullEdgeTest {
         x.cart(201, 1);
         CHECK.due("8: margin -2", x.worst(0), -2);
         CHECK.due("9: it doesn't hold", x.gap(), -1);
+        int[][] seconds = {{99, 1, 1}, {100, 0, 1}, {101, -1, 2}};
+        for (int[] second : seconds) {
+            x.clear();
+            x.cart(150, 1);
+            x.cart(second[0], 1);
+            CHECK.due("8: 300 and " + second[0] + " on one hull", x.worst(0), second[1]);
+            CHECK.due("9: 300 and " + second[0] + " on one hull", x.gap(), second[2]);
+        }
     }
 
     private static void deepestMargin() {

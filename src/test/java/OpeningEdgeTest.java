@@ -307,6 +307,8 @@ public final class OpeningEdgeTest {
                 CHECK.due("14: the last of " + ships, x.opening(ships - 1, 0), 20 * ships - 20);
                 CHECK.due("14: the last one's ships", x.opening(ships - 1, 1), 1);
                 CHECK.due("14: the last one's end", x.opening(ships - 1, 2), 20 * ships - 12);
+                CHECK.due("13: each alone", x.waits(), 10 * ships);
+                CHECK.due("15: each alone", x.atOnce(), 10 * ships);
             }
         }
     }
@@ -362,6 +364,9 @@ public final class OpeningEdgeTest {
         BoatBridge at300 = with(220, 220, 239);
         at300.times(20, 20, 20, 1);
         CHECK.due("15: would begin at 300", at300.atOnce(), -1);
+        BoatBridge at301 = with(221, 221, 239);
+        at301.times(20, 20, 20, 1);
+        CHECK.due("15: would begin at 301", at301.atOnce(), -1);
     }
 
     /** The longest that can be told: ten ships, the longest times, all at the end. */
