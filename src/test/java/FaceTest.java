@@ -25,6 +25,7 @@ public final class FaceTest {
     public static void main(String[] args) throws IOException {
         faceIsWhole();
         noOtherNameTwice();
+        sizesAreKept();
         sourceKeepsRules();
         CHECK.done();
     }
@@ -65,6 +66,25 @@ public final class FaceTest {
             for (Method m : inside.getDeclaredMethods()) {
                 CHECK.due(inside + "'s " + m.getName(), names.contains(m.getName()), false);
             }
+        }
+    }
+
+    private static void sizesAreKept() {
+        Class<?>[] inside = BoatBridge.class.getDeclaredClasses();
+        CHECK.due("rule 11: some twelve classes", inside.length + 1 <= 12, true);
+        memberSizes(BoatBridge.class);
+        for (Class<?> type : inside) {
+            memberSizes(type);
+        }
+    }
+
+    private static void memberSizes(Class<?> type) {
+        for (Method m : type.getDeclaredMethods()) {
+            CHECK.due("rule 11: parameters of " + m, m.getParameterCount() <= 7, true);
+        }
+        for (Field f : type.getDeclaredFields()) {
+            boolean still = !Modifier.isStatic(f.getModifiers()) || Modifier.isFinal(f.getModifiers());
+            CHECK.due("rule 5: " + f, still, true);
         }
     }
 
